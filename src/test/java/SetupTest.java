@@ -1,0 +1,229 @@
+/** Promises 1 and 4: the market of a new object, and setups with their errors. */
+public final class SetupTest {
+    private static final String HEAD = "market 1 2 3 40 5 60;";
+
+    public static void main(String[] args) {
+        promise1ANewObjectIsTheFirstSetup();
+        promise1TheRestOfANewObjectIsEmpty();
+        promise4LoadBeginsANewMarket();
+        promise4LoadTakesEachRangeToItsEnds();
+        promise4LoadWithAnErrorLeavesTheMarket();
+        promise4LoadWithoutAnErrorForgetsTheOldMarket();
+        errorsOfTheMarket();
+        errorsOfBoards();
+        errorsOfTraders();
+        errorsOfSeats();
+        errorsOfTheOrder();
+        tooManyBoards();
+        tooManyTraders();
+        namesMayBeWordsOfTheGrammar();
+        Expect.end();
+    }
+
+    private static void promise1ANewObjectIsTheFirstSetup() {
+        SeesawMarket market = Markets.first();
+        Expect.same("state", Markets.state(market), "day 0 bank 200 wage 3 base 4 age 40 sold 0 0 falls 0 contradictions 0 "
+                + " board 3 10 -1 0 -1 ^  -1 -1 1 board 2 5 -1 -1 ^  2 -1"
+                + " trader ann 10 30 0 true 0 -2 trader bob 6 25 12 true 0 3 trader cat 8 12 38 true 1 1"
+                + " trader dan 15 40 5 true -1 0");
+        Expect.same("weight price", market.weightUnitPrice(Markets.ANN, Markets.BOB), 2);
+        Expect.same("a loaded one is the same", Markets.state(Markets.of(Markets.FIRST_SETUP)), Markets.state(market));
+    }
+
+    private static void promise1TheRestOfANewObjectIsEmpty() {
+        SeesawMarket market = Markets.first();
+        Expect.same("buffer", Markets.bufferLength(market), 0);
+        Expect.same("output", market.outputByte(0), SeesawMarket.NONE);
+        Expect.same("undo", market.undoCount(), 0);
+        Expect.noState("an empty slot 0", Markets::first, empty -> empty.restore(0));
+        Expect.noState("an empty slot 1", Markets::first, empty -> empty.restore(1));
+    }
+
+    private static void promise4LoadBeginsANewMarket() {
+        SeesawMarket market = Markets.of(HEAD + "board 2 3 4; board 6 99 999; trader q 5 6 7; seat q 1 right 6;");
+        Expect.same("state", Markets.state(market), "day 0 bank 60 wage 1 base 2 age 40 sold 0 0 falls 0 contradictions 0 "
+                + " board 2 3 -1 -1 ^  -1 -1 board 6 99 -1 -1 -1 -1 -1 -1 ^  -1 -1 -1 -1 -1 0 trader q 5 6 7 true 1 6");
+        Expect.same("the buffer is empty", Markets.bufferLength(market), 0);
+        Expect.same("no board, no trader", Markets.state(Markets.of(HEAD)),
+                "day 0 bank 60 wage 1 base 2 age 40 sold 0 0 falls 0 contradictions 0 ");
+    }
+
+    private static void promise4LoadTakesEachRangeToItsEnds() {
+        Markets.of("market 0 0 0 1 0 0; board 1 1 0; trader a 1 0 0; trader b 1 0 1; seat a 0 left 1;");
+        SeesawMarket market = Markets.of("market 20 99 99 999 999 99999; board 6 99 999; board 1 1 1;"
+                + "trader abcdef 99 9999 999; seat abcdef 1 right 1;");
+        Expect.same("bank", market.bank(), 99999);
+        Expect.same("age", market.ageOf(0), 999);
+        Expect.same("purse", market.purseOf(0), 9999);
+        Expect.same("a board that tips is allowed", Markets.of(HEAD + "board 1 1 0; trader a 9 1 1; seat a 0 left 1;")
+                .torque(0), -9);
+    }
+
+    private static void promise4LoadWithAnErrorLeavesTheMarket() {
+        SeesawMarket market = Markets.first();
+        market.advance(1);
+        market.save(1);
+        market.writeBoard(0);
+        String before = Markets.state(market);
+        Expect.same("load", Markets.load(market, "market 9 9 9 9 9 9; board 1 1 1; trader a 1 1 10;"), 2);
+        Expect.same("state", Markets.state(market), before);
+        Expect.same("the buffer is empty", Markets.bufferLength(market), 0);
+        Expect.same("undo", market.undoCount(), 1);
+        Expect.same("slot", market.restore(1), 1);
+    }
+
+    private static SeesawMarket loadedAfterChanges() {
+        SeesawMarket market = Markets.first();
+        Markets.runAll(market, "buy dan 0 right 1; sell dan ann 1; days 30; days 30;");
+        market.save(0);
+        market.save(1);
+        market.writeBoard(1);
+        Markets.load(market, Markets.FIRST_SETUP);
+        return market;
+    }
+
+    private static void promise4LoadWithoutAnErrorForgetsTheOldMarket() {
+        SeesawMarket market = loadedAfterChanges();
+        Expect.same("state", Markets.state(market), Markets.state(Markets.first()));
+        Expect.same("undo", market.undoCount(), 0);
+        Expect.same("the output stays", Markets.output(market), ". . ^ . .");
+        Expect.noState("slot 0", SetupTest::loadedAfterChanges, loaded -> loaded.restore(0));
+        Expect.noState("slot 1", SetupTest::loadedAfterChanges, loaded -> loaded.restore(1));
+        Expect.noState("undo", SetupTest::loadedAfterChanges, loaded -> loaded.undo());
+    }
+
+    /** The error is due at the sign ~, which is not a part of the text. */
+    private static void error(int code, String marked) {
+        String text = marked.replace("~", "");
+        SeesawMarket market = Markets.first();
+        String before = Markets.state(market);
+        Expect.same("load of " + marked, Markets.load(market, text), code);
+        Expect.same("code of " + marked, market.errorCode(), code);
+        Expect.same("position in " + marked, market.errorPosition(), marked.indexOf('~'));
+        Expect.same("state after " + marked, Markets.state(market), before);
+    }
+
+    private static void errorsOfTheMarket() {
+        error(SeesawMarket.SYNTAX, "~");
+        error(SeesawMarket.SYNTAX, "  ~");
+        error(SeesawMarket.SYNTAX, "~board 1 1 1;");
+        error(SeesawMarket.SYNTAX, "~markets 1 2 3 4 5 6;");
+        error(SeesawMarket.SYNTAX, "~marke 1 2 3 4 5 6;");
+        error(SeesawMarket.SYNTAX, "~1 2 3 4 5 6;");
+        error(SeesawMarket.OUT_OF_RANGE, "market ~21 100 100");
+        error(SeesawMarket.OUT_OF_RANGE, "market 20 ~100 100");
+        error(SeesawMarket.OUT_OF_RANGE, "market 20 99 ~100 1");
+        error(SeesawMarket.OUT_OF_RANGE, "market 20 99 99 ~0 1");
+        error(SeesawMarket.OUT_OF_RANGE, "market 20 99 99 ~1000 1");
+        error(SeesawMarket.OUT_OF_RANGE, "market 20 99 99 999 ~1000 1");
+        error(SeesawMarket.OUT_OF_RANGE, "market 20 99 99 999 999 ~100000;");
+        error(SeesawMarket.SYNTAX, "market 20 99 99 999 999 99999~");
+        error(SeesawMarket.SYNTAX, "market 20 99 99 999 999 99999 ~board");
+        error(SeesawMarket.SYNTAX, "market 20 99 99 999 999 99999 ~1;");
+        error(SeesawMarket.SYNTAX, "market 20 99 ~;");
+        error(SeesawMarket.SYNTAX, "market 20 99 ~x");
+        error(SeesawMarket.SYNTAX, "market ~-1");
+        error(SeesawMarket.SYNTAX, HEAD + "~;");
+        error(SeesawMarket.SYNTAX, HEAD + "~market 1 2 3 4 5 6;");
+        error(SeesawMarket.SYNTAX, HEAD + " ~days 1;");
+        error(SeesawMarket.SYNTAX, HEAD + " ~(");
+        error(SeesawMarket.SYNTAX, HEAD + " ~7");
+    }
+
+    private static void errorsOfBoards() {
+        error(SeesawMarket.OUT_OF_RANGE, HEAD + "board ~0 1 1;");
+        error(SeesawMarket.OUT_OF_RANGE, HEAD + "board ~7 1 1;");
+        error(SeesawMarket.OUT_OF_RANGE, HEAD + "board 6 ~0 1;");
+        error(SeesawMarket.OUT_OF_RANGE, HEAD + "board 6 ~100 1;");
+        error(SeesawMarket.OUT_OF_RANGE, HEAD + "board 6 99 ~1000;");
+        error(SeesawMarket.SYNTAX, HEAD + "board 6 99 999 ~9;");
+        error(SeesawMarket.SYNTAX, HEAD + "board 6 99 ~;");
+        error(SeesawMarket.SYNTAX, HEAD + "board 6 99 999~");
+        error(SeesawMarket.SYNTAX, HEAD + "board ~x 99 999;");
+        error(SeesawMarket.SYNTAX, HEAD + "~boards 1 1 1;");
+    }
+
+    private static void errorsOfTraders() {
+        String first = HEAD + "trader a 1 1 1;";
+        error(SeesawMarket.SYNTAX, HEAD + "trader ~abcdefg 1 1 1;");
+        error(SeesawMarket.SYNTAX, HEAD + "trader ~1 1 1 1;");
+        error(SeesawMarket.SYNTAX, HEAD + "trader ~;");
+        error(SeesawMarket.ALREADY_USED, first + "trader ~a 0 1 1;");
+        error(SeesawMarket.ALREADY_USED, first + "trader b 1 1 1; trader ~a");
+        error(SeesawMarket.OUT_OF_RANGE, first + "trader b ~0 1 1;");
+        error(SeesawMarket.OUT_OF_RANGE, first + "trader b ~100 1 1;");
+        error(SeesawMarket.OUT_OF_RANGE, first + "trader b 99 ~10000 1;");
+        error(SeesawMarket.OUT_OF_RANGE, first + "trader b 99 9999 ~41;");
+        error(SeesawMarket.OUT_OF_RANGE, "market 1 2 3 999 5 6; trader b 99 9999 ~1000;");
+        error(SeesawMarket.SYNTAX, first + "trader b 99 9999 40 ~4;");
+        error(SeesawMarket.SYNTAX, first + "trader b 99 9999 ~;");
+        error(SeesawMarket.SYNTAX, first + "trader b~");
+        error(SeesawMarket.SYNTAX, first + "trader B".replace("B", "~B") + " 1 1 1;");
+    }
+
+    private static void errorsOfSeats() {
+        String first = HEAD + "board 2 1 99; board 3 1 99; trader a 1 1 1; trader b 2 2 2;";
+        error(SeesawMarket.UNKNOWN_NAME, first + "seat ~c 9 up 9;");
+        error(SeesawMarket.SYNTAX, first + "seat ~aaaaaaa 0 left 1;");
+        error(SeesawMarket.SYNTAX, first + "seat ~0 left 1;");
+        error(SeesawMarket.ALREADY_USED, first + "seat a 0 left 1; seat ~a 0 left 9;");
+        error(SeesawMarket.OUT_OF_RANGE, first + "seat a ~2 up 1;");
+        error(SeesawMarket.OUT_OF_RANGE, HEAD + "trader a 1 1 1; seat a ~0 left 1;");
+        error(SeesawMarket.SYNTAX, first + "seat a ~left 1;");
+        error(SeesawMarket.SYNTAX, first + "seat a 1 ~up 0;");
+        error(SeesawMarket.SYNTAX, first + "seat a 1 ~3;");
+        error(SeesawMarket.SYNTAX, first + "seat a 1 ~leftright 1;");
+        error(SeesawMarket.OUT_OF_RANGE, first + "seat a 0 left ~0;");
+        error(SeesawMarket.OUT_OF_RANGE, first + "seat a 0 left ~3;");
+        error(SeesawMarket.OUT_OF_RANGE, first + "seat a 1 right ~4;");
+        error(SeesawMarket.ALREADY_USED, first + "seat a 1 right 3; seat b 1 right ~3;");
+        error(SeesawMarket.OUT_OF_RANGE, first + "seat a 1 right 3; seat b 0 right ~3;");
+        error(SeesawMarket.SYNTAX, first + "seat a 1 right 3 ~3;");
+        error(SeesawMarket.SYNTAX, first + "seat a 1 right ~;");
+        error(SeesawMarket.SYNTAX, first + "seat a 1 right 3~");
+        Markets.of(first + "seat a 1 right 3; seat b 1 left 3;");
+        Markets.of(first + "seat b 1 right 2; seat a 0 right 2;");
+    }
+
+    private static void errorsOfTheOrder() {
+        String all = HEAD + "board 2 1 99; trader a 1 1 1; seat a 0 left 1;";
+        error(SeesawMarket.SYNTAX, HEAD + "trader a 1 1 1; ~board 2 1 99;");
+        error(SeesawMarket.SYNTAX, all + "~board 2 1 99;");
+        error(SeesawMarket.SYNTAX, all + "~trader b 1 1 1;");
+        error(SeesawMarket.UNKNOWN_NAME, HEAD + "seat ~a 0 left 1;");
+        // The first token with an error counts, whatever follows.
+        error(SeesawMarket.OUT_OF_RANGE, HEAD + "board ~7 100 1000 ? trader");
+    }
+
+    private static void tooManyBoards() {
+        String five = HEAD + "board 1 1 1;".repeat(5);
+        Expect.same("five boards", Markets.of(five).boardCount(), 5);
+        error(SeesawMarket.TOO_MANY, five + "~board 9 9 9;");
+        error(SeesawMarket.TOO_MANY, five + "~board");
+        error(SeesawMarket.SYNTAX, five + "~boards");
+        error(SeesawMarket.SYNTAX, five + "trader a 1 1 1; ~board 1 1 1;");
+    }
+
+    private static void tooManyTraders() {
+        StringBuilder traders = new StringBuilder(HEAD);
+        traders.append("board 6 9 9;");
+        for (char letter = 'a'; letter <= 'x'; letter++) {
+            traders.append("trader ").append(letter).append(" 1 1 1;");
+        }
+        SeesawMarket market = Markets.of(traders.toString());
+        Expect.same("24 traders", market.traderCount(), 24);
+        Expect.same("the last of them", Markets.name(market, 23), "x");
+        error(SeesawMarket.TOO_MANY, traders + "~trader a 0");
+        error(SeesawMarket.TOO_MANY, traders + "~trader");
+        error(SeesawMarket.SYNTAX, traders + "seat x 0 left 1; ~trader y 1 1 1;");
+        Expect.same("seats behind 24 traders", Markets.of(traders + "seat x 0 left 6;").positionOf(23), -6);
+    }
+
+    private static void namesMayBeWordsOfTheGrammar() {
+        SeesawMarket market = Markets.of(HEAD + "board 2 1 99; trader board 1 1 1; trader seat 1 9 1; trader left 1 9 1;"
+                + "trader trader 1 1 1; seat seat 0 left 1; seat left 0 right 1;");
+        Expect.same("board", Markets.board(market, 0), ". seat ^ left .");
+        Expect.same("script", Markets.run(market, "swap left seat; buy board 0 left 2; join days 1 1; leave left;"), 1);
+        Expect.same("swapped", Markets.board(market, 0), ". left ^ seat .");
+    }
+}
