@@ -793,7 +793,6 @@ public final class SeesawMarket {
 
         void clear() {
             day = 0;
-            broughtCoins = 0;
             seatsSold = 0;
             weightSold = 0;
             fallCount = 0;

@@ -9,6 +9,7 @@ public final class DayTest {
         retirementsComeBeforeFalls();
         thePresentAge();
         theFarthestOnTheHeavierSideFalls();
+        aWholeBoardMayFall();
         boardsTipInAscendingOrder();
         theFineIsPaidAsFarAsThePurseSuffices();
         aBoardTipsBeyondItsLimitOnly();
@@ -48,6 +49,7 @@ public final class DayTest {
         Expect.same("not enough for d", purses(afterDays("market 7 0 0 99 0 16;" + LEVEL, 1)), "17 17 10 12 bank 0");
         Expect.same("not enough for b", purses(afterDays("market 7 0 0 99 0 9;" + LEVEL, 1)), "17 12 10 10 bank 0");
         Expect.same("nothing", purses(afterDays("market 7 0 0 99 0 0;" + LEVEL, 2)), "10 10 10 10 bank 0");
+        Expect.same("not even one coin", purses(afterDays("market 1 0 0 99 0 1;" + LEVEL, 2)), "11 10 10 10 bank 0");
         Expect.same("no wage", purses(afterDays("market 0 0 0 99 0 5;" + LEVEL, 2)), "10 10 10 10 bank 5");
     }
 
@@ -117,6 +119,23 @@ public final class DayTest {
         Expect.same("both sides", Markets.board(afterDays(both, 1), 0), ". . . ^ . . .");
         Expect.same("falls on both sides", Markets.events(afterDays(both, 1)),
                 "fall 3 on 1; fall 0 on 1; fall 2 on 1; fall 1 on 1;");
+    }
+
+    private static void aWholeBoardMayFall() {
+        StringBuilder setup = new StringBuilder("market 0 0 0 99 0 0; board 6 99 0;");
+        for (int trader = 0; trader < 12; trader++) {
+            setup.append("trader ").append((char) ('a' + trader)).append(trader < 6 ? " 1" : " 99").append(" 1 1;");
+        }
+        for (int trader = 0; trader < 12; trader++) {
+            setup.append("seat ").append((char) ('a' + trader)).append(" 0 ").append(trader < 6 ? "left " : "right ");
+            setup.append(trader % 6 + 1).append(';');
+        }
+        SeesawMarket market = Markets.of(setup.toString());
+        Expect.same("twelve falls", market.advance(1), 12);
+        Expect.same("fall count", market.fallCount(), 12);
+        Expect.same("an empty board", Markets.board(market, 0), ". . . . . . ^ . . . . . .");
+        Expect.same("the latest fall", market.eventTrader(0), 0);
+        Expect.same("the first fall", market.eventTrader(11), 11);
     }
 
     private static void boardsTipInAscendingOrder() {

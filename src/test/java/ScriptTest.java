@@ -163,6 +163,10 @@ public final class ScriptTest {
         error(SeesawMarket.SYNTAX, "~market 1 2 3 4 5 6;");
         error(SeesawMarket.SYNTAX, "~day 1;");
         error(SeesawMarket.SYNTAX, "~dayss 1;");
+        error(SeesawMarket.SYNTAX, "~pays 1;");
+        error(SeesawMarket.SYNTAX, "~coin eve 1 1;");
+        error(SeesawMarket.SYNTAX, "buy ann 0 ~weft 1;");
+        error(SeesawMarket.SYNTAX, "buy ann 0 ~fight 1;");
         error(SeesawMarket.SYNTAX, "~1;");
         error(SeesawMarket.SYNTAX, "~;");
         error(SeesawMarket.SYNTAX, "days 1; ~)");
@@ -237,6 +241,10 @@ public final class ScriptTest {
         error(SeesawMarket.OUT_OF_RANGE, "repeat 1(repeat 1(repeat ~0(");
         error(SeesawMarket.SYNTAX, "repeat 1(repeat 1(repeat 1~");
         error(SeesawMarket.SYNTAX, "repeat 1(repeat 1(repeat 1 ~days 1;");
+        SeesawMarket market = Markets.first();
+        Markets.run(market, "repeat 2 (repeat 2 (");
+        Expect.same("no bracket of an earlier script is open", Markets.run(market, "days 1;"), 1);
+        Expect.same("a bracket of an earlier script", Markets.run(market, "days 1; );"), SeesawMarket.NONE);
         Expect.same("two one after the other", after("repeat 1(repeat 1(days 1;); repeat 1(days 1;););", 2).day(), 2);
     }
 

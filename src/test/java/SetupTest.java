@@ -9,6 +9,7 @@ public final class SetupTest {
         promise4LoadTakesEachRangeToItsEnds();
         promise4LoadWithAnErrorLeavesTheMarket();
         promise4LoadWithoutAnErrorForgetsTheOldMarket();
+        promise4LoadForgetsForecastsAndFailures();
         errorsOfTheMarket();
         errorsOfBoards();
         errorsOfTraders();
@@ -74,7 +75,9 @@ public final class SetupTest {
 
     private static SeesawMarket loadedAfterChanges() {
         SeesawMarket market = Markets.first();
-        Markets.runAll(market, "buy dan 0 right 1; sell dan ann 1; days 30; days 30;");
+        Markets.runAll(market, "buy dan 0 left 3; sell dan ann 1; leave bob; days 30; days 30;");
+        Expect.same("a fall", market.fallCount(), 1);
+        market.bankAfter(9);
         market.save(0);
         market.save(1);
         market.writeBoard(1);
@@ -90,6 +93,16 @@ public final class SetupTest {
         Expect.noState("slot 0", SetupTest::loadedAfterChanges, loaded -> loaded.restore(0));
         Expect.noState("slot 1", SetupTest::loadedAfterChanges, loaded -> loaded.restore(1));
         Expect.noState("undo", SetupTest::loadedAfterChanges, loaded -> loaded.undo());
+    }
+
+    private static void promise4LoadForgetsForecastsAndFailures() {
+        SeesawMarket market = loadedAfterChanges();
+        market.bankAfter(100);
+        Markets.load(market, Markets.FIRST_SETUP + "seat dan 1 left 2; seat");
+        market.bankAfter(100);
+        Expect.same("load", Markets.load(market, HEAD + "board 3 1 9; trader x 1 1 1; trader y 1 1 1; seat y 0 left 3;"), 0);
+        Expect.same("state", Markets.state(market), "day 0 bank 60 wage 1 base 2 age 40 sold 0 0 falls 0 contradictions 0 "
+                + " board 3 1 1 -1 -1 ^  -1 -1 -1 trader x 1 1 1 true -1 0 trader y 1 1 1 true 0 -3");
     }
 
     /** The error is due at the sign ~, which is not a part of the text. */
@@ -109,6 +122,8 @@ public final class SetupTest {
         error(SeesawMarket.SYNTAX, "~board 1 1 1;");
         error(SeesawMarket.SYNTAX, "~markets 1 2 3 4 5 6;");
         error(SeesawMarket.SYNTAX, "~marke 1 2 3 4 5 6;");
+        error(SeesawMarket.SYNTAX, "~basket 1 2 3 4 5 6;");
+        error(SeesawMarket.SYNTAX, HEAD + "~hoard 1 1 1;");
         error(SeesawMarket.SYNTAX, "~1 2 3 4 5 6;");
         error(SeesawMarket.OUT_OF_RANGE, "market ~21 100 100");
         error(SeesawMarket.OUT_OF_RANGE, "market 20 ~100 100");

@@ -7,6 +7,7 @@ public final class UndoTest {
         promise60OutputByte();
         promises61And62UndoEachChange();
         promises61And62UndoEightChanges();
+        promise62UndoTakesBackEventsAndStatistics();
         promise62UndoLeavesTexts();
         promise62UndoRefuses();
         promises63And64SaveAndRestore();
@@ -108,6 +109,30 @@ public final class UndoTest {
         Expect.same("wage", market.wage(), 1);
         Expect.same("undo of the other", market.undo(), 0);
         Expect.same("wage", market.wage(), 12);
+    }
+
+    private static void promise62UndoTakesBackEventsAndStatistics() {
+        SeesawMarket market = Markets.of("market 0 0 0 5 0 0; board 2 9 9; trader a 5 9 5; trader b 3 9 0; trader c 5 9 4;"
+                + "seat a 0 left 1; seat b 0 right 1; seat c 0 right 2;");
+        market.advance(1);
+        Expect.same("events of day 1", Markets.events(market), "fall 2 on 1; retirement 0 on 1;");
+        Markets.runAll(market, "buy c 0 left 1; sell b c 2;");
+        String before = Markets.state(market);
+        Markets.runAll(market, "days 1; buy b 0 right 2; leave b; days 9;");
+        Expect.same("later events", Markets.events(market),
+                "retirement 1 on 6; retirement 2 on 2; fall 2 on 1; retirement 0 on 1;");
+        market.undo();
+        Expect.same("events again", Markets.events(market), "fall 2 on 1; retirement 0 on 1;");
+        Expect.same("state again", Markets.state(market), before);
+        market.save(0);
+        market.undo();
+        Expect.same("seats sold", market.seatsSold(), 0);
+        Expect.same("weight sold", market.weightSold(), 0);
+        market.undo();
+        Expect.same("falls", market.fallCount(), 0);
+        Expect.same("no events", Markets.events(market), "");
+        market.restore(0);
+        Expect.same("restored", Markets.state(market), before);
     }
 
     private static void promise62UndoLeavesTexts() {
