@@ -99,7 +99,6 @@ public final class SetupTest {
         SeesawMarket market = loadedAfterChanges();
         market.bankAfter(100);
         Markets.load(market, Markets.FIRST_SETUP + "seat dan 1 left 2; seat");
-        market.bankAfter(100);
         Expect.same("load", Markets.load(market, HEAD + "board 3 1 9; trader x 1 1 1; trader y 1 1 1; seat y 0 left 3;"), 0);
         Expect.same("state", Markets.state(market), "day 0 bank 60 wage 1 base 2 age 40 sold 0 0 falls 0 contradictions 0 "
                 + " board 3 1 1 -1 -1 ^  -1 -1 -1 trader x 1 1 1 true -1 0 trader y 1 1 1 true 0 -3");
