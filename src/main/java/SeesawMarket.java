@@ -23,6 +23,7 @@ public final class SeesawMarket {
     private static final int TILT_LIMIT = 9;
     private static final int TRADER_LIMIT = 24;
     private static final int NAME_LIMIT = 6;
+    private static final long NO_NAME = 0;
     private static final int WEIGHT_LIMIT = 99;
     private static final int PURSE_LIMIT = 9999;
     private static final int UNITS_LIMIT = 50;
@@ -46,9 +47,7 @@ public final class SeesawMarket {
     private final Text text = new Text();
     private final Text output = new Text();
     private final Tokens tokens = new Tokens(text);
-    private final Setup setup = new Setup();
     private final Script script = new Script();
-    private final Name wholeText = new Name();
     private final Market market = new Market();
     // Setups are read into it and forecasts run in it, so that neither touches the market.
     private final Market draft = new Market();
@@ -189,15 +188,12 @@ public final class SeesawMarket {
     }
 
     public int findTrader() {
-        if (!wholeText.read(text, 0, text.length)) {
-            return NONE;
-        }
-        Trader found = market.traderNamed(wholeText);
+        Trader found = market.traderNamed(text.nameBetween(0, text.length));
         return found == null ? NONE : found.number;
     }
 
     public int nameLetter(int trader, int index) throws IndexOutOfBoundsException {
-        return existingTrader(trader).name.letterAt(index);
+        return letterOf(existingTrader(trader).name, index);
     }
 
     public int weightOf(int trader) throws IndexOutOfBoundsException {
@@ -342,12 +338,13 @@ public final class SeesawMarket {
     public int join(int weight, int purse) throws IllegalArgumentException, IllegalStateException {
         requireRange(weight, 1, WEIGHT_LIMIT);
         requireRange(purse, 0, PURSE_LIMIT);
-        if (!wholeText.read(text, 0, text.length) || !market.canAdmit(wholeText)) {
+        long name = text.nameBetween(0, text.length);
+        if (!market.canAdmit(name)) {
             throw new IllegalStateException("no trader can join under this name");
         }
         history.record(market);
         text.length = 0;
-        return market.admit(wholeText, weight, purse, 0);
+        return market.admit(name, weight, purse, 0);
     }
 
     public int buySeat(int trader, int board, int position) throws IndexOutOfBoundsException, IllegalStateException {
@@ -456,7 +453,7 @@ public final class SeesawMarket {
 
     private void beginMarketOfText() {
         tokens.begin();
-        setup.read(tokens, draft);
+        Setup.read(tokens, draft);
         text.length = 0;
         if (tokens.failed()) {
             return;
@@ -544,6 +541,11 @@ public final class SeesawMarket {
         return count;
     }
 
+    private static int letterOf(long name, int index) {
+        int letter = index >= 0 && index < NAME_LIMIT ? (int) ((name >>> (8 * index)) & 255) : 0;
+        return letter == 0 ? NONE : letter;
+    }
+
     private static boolean isLetter(int sign) {
         return sign >= 'a' && sign <= 'z';
     }
@@ -582,52 +584,26 @@ public final class SeesawMarket {
             }
         }
 
-        void addName(Name name) {
-            for (int index = 0; index < name.length; index++) {
-                add(name.letterAt(index));
+        void addName(long name) {
+            for (int index = 0; index < NAME_LIMIT && letterOf(name, index) != NONE; index++) {
+                add(letterOf(name, index));
             }
         }
-    }
 
-    private static final class Name {
-        final int[] letters = new int[NAME_LIMIT];
-        int length;
-
-        boolean read(Text text, int from, int to) {
-            length = 0;
-            if (to - from < 1 || to - from > letters.length) {
-                return false;
+        // Eight bits a letter, the first one lowest, so that the many copies of a market need no array for each name.
+        long nameBetween(int from, int to) {
+            if (to - from > NAME_LIMIT) {
+                return NO_NAME;
             }
-            for (int index = 0; index < to - from; index++) {
-                int letter = text.byteAt(from + index);
+            long name = NO_NAME;
+            for (int index = to - 1; index >= from; index--) {
+                int letter = byteAt(index);
                 if (!isLetter(letter)) {
-                    return false;
+                    return NO_NAME;
                 }
-                letters[index] = letter;
+                name = name << 8 | letter;
             }
-            length = to - from;
-            return true;
-        }
-
-        int letterAt(int index) {
-            return index >= 0 && index < length && index < letters.length ? letters[index] : NONE;
-        }
-
-        boolean matches(Name other) {
-            if (length != other.length) {
-                return false;
-            }
-            for (int index = 0; index < length; index++) {
-                if (letterAt(index) != other.letterAt(index)) {
-                    return false;
-                }
-            }
-            return true;
-        }
-
-        void copyFrom(Name other) {
-            length = other.length;
-            System.arraycopy(other.letters, 0, letters, 0, letters.length);
+            return name;
         }
     }
 
@@ -693,7 +669,7 @@ public final class SeesawMarket {
 
     private static final class Trader {
         final int number;
-        final Name name = new Name();
+        long name;
         int weight;
         int purse;
         int age;
@@ -710,7 +686,7 @@ public final class SeesawMarket {
         }
 
         void copyFrom(Trader other) {
-            name.copyFrom(other.name);
+            name = other.name;
             weight = other.weight;
             purse = other.purse;
             age = other.age;
@@ -832,9 +808,9 @@ public final class SeesawMarket {
             return number >= 0 && number < traderCount && number < traders.length ? traders[number] : null;
         }
 
-        Trader traderNamed(Name name) {
+        Trader traderNamed(long name) {
             for (int number = 0; number < traderCount; number++) {
-                if (traders[number].name.matches(name)) {
+                if (traders[number].name == name) {
                     return traders[number];
                 }
             }
@@ -848,17 +824,17 @@ public final class SeesawMarket {
             }
         }
 
-        boolean canAdmit(Name name) {
-            return traderCount < traders.length && traderNamed(name) == null;
+        boolean canAdmit(long name) {
+            return name != NO_NAME && traderCount < traders.length && traderNamed(name) == null;
         }
 
-        int admit(Name name, int weight, int purse, int age) {
+        int admit(long name, int weight, int purse, int age) {
             if (traderCount >= traders.length) {
                 return NONE;
             }
             Trader trader = traders[traderCount];
             traderCount++;
-            trader.name.copyFrom(name);
+            trader.name = name;
             trader.weight = weight;
             trader.purse = purse;
             trader.age = age;
@@ -1387,8 +1363,10 @@ public final class SeesawMarket {
             takeIf(atSign(sign));
         }
 
-        void takeName(Name name) {
-            takeIf(at(WORD) && name.read(text, starts[here], ends[here]));
+        long takeName() {
+            long name = at(WORD) ? text.nameBetween(starts[here], ends[here]) : NO_NAME;
+            takeIf(name != NO_NAME);
+            return name;
         }
 
         int takeNumber(int least, int greatest) {
@@ -1431,9 +1409,7 @@ public final class SeesawMarket {
     }
 
     private static final class Setup {
-        private final Name name = new Name();
-
-        void read(Tokens tokens, Market market) {
+        static void read(Tokens tokens, Market market) {
             market.clear();
             readMarket(tokens, market);
             for (int count = 0; count < BOARD_LIMIT && tokens.atWord("board"); count++) {
@@ -1478,9 +1454,9 @@ public final class SeesawMarket {
             }
         }
 
-        private void readTrader(Tokens tokens, Market market) {
+        private static void readTrader(Tokens tokens, Market market) {
             tokens.takeAnyWord();
-            tokens.takeName(name);
+            long name = tokens.takeName();
             if (market.traderNamed(name) != null) {
                 tokens.refuseTaken(ALREADY_USED);
             }
@@ -1493,10 +1469,9 @@ public final class SeesawMarket {
             }
         }
 
-        private void readSeat(Tokens tokens, Market market) {
+        private static void readSeat(Tokens tokens, Market market) {
             tokens.takeAnyWord();
-            tokens.takeName(name);
-            Trader trader = market.traderNamed(name);
+            Trader trader = market.traderNamed(tokens.takeName());
             if (trader == null) {
                 tokens.refuseTaken(UNKNOWN_NAME);
             } else if (trader.isSeated()) {
@@ -1526,8 +1501,8 @@ public final class SeesawMarket {
         static final int REPEAT = 8;
 
         int kind;
-        final Name name = new Name();
-        final Name otherName = new Name();
+        long name;
+        long otherName;
         // The weight of a join, the board of a purchase, or the only number of another command.
         int number;
         int purse;
@@ -1563,17 +1538,17 @@ public final class SeesawMarket {
         void readWords(Tokens tokens) {
             switch (kind) {
                 case JOIN:
-                    tokens.takeName(name);
+                    name = tokens.takeName();
                     number = tokens.takeNumber(1, WEIGHT_LIMIT);
                     purse = tokens.takeNumber(0, PURSE_LIMIT);
                     break;
                 case BUY:
-                    tokens.takeName(name);
+                    name = tokens.takeName();
                     number = tokens.takeNumber(0, BOARD_LIMIT - 1);
                     position = tokens.takeSide() * tokens.takeNumber(1, ARM_LIMIT);
                     break;
                 case LEAVE:
-                    tokens.takeName(name);
+                    name = tokens.takeName();
                     break;
                 case SELL:
                     readTwoNames(tokens);
@@ -1595,9 +1570,9 @@ public final class SeesawMarket {
         }
 
         private void readTwoNames(Tokens tokens) {
-            tokens.takeName(name);
-            tokens.takeName(otherName);
-            if (name.matches(otherName)) {
+            name = tokens.takeName();
+            otherName = tokens.takeName();
+            if (name == otherName) {
                 tokens.refuseTaken(ALREADY_USED);
             }
         }
