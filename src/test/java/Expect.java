@@ -4,8 +4,14 @@ import java.util.function.Supplier;
 /** Compares answers with those that are due, and tells at the end whether one was wrong. */
 final class Expect {
     private static int wrong = 0;
+    private static String subject = "";
 
     private Expect() {
+    }
+
+    /** What the following answers are about; it is told with those that are wrong. */
+    static void about(String newSubject) {
+        subject = newSubject;
     }
 
     static void same(String what, long got, long due) {
@@ -52,6 +58,7 @@ final class Expect {
         }
         same(what + " throws", thrown, due.getSimpleName());
         same(what + " changes nothing", Markets.picture(market), before);
+        same(what + " changes nothing that can come back", Markets.past(market), Markets.past(fresh.get()));
     }
 
     static void noIndex(String what, Supplier<SeesawMarket> fresh, Consumer<SeesawMarket> call) {
@@ -75,6 +82,6 @@ final class Expect {
 
     private static void tell(String what, String got, String due) {
         wrong++;
-        System.out.println(what + ": answered " + got + ", due is " + due);
+        System.out.println((subject.isEmpty() ? "" : subject + ": ") + what + ": answered " + got + ", due is " + due);
     }
 }

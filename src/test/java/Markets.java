@@ -16,6 +16,30 @@ final class Markets {
         return new SeesawMarket();
     }
 
+    /** The first market with changes, both slots, an output, an error and a text, so that little of it is as at first. */
+    static SeesawMarket rich() {
+        SeesawMarket market = first();
+        market.save(0);
+        market.setWage(7);
+        market.save(1);
+        run(market, "wage 8; join");
+        market.buySeat(DAN, 0, 1);
+        market.leaveSeat(BOB);
+        market.advance(1);
+        market.writeBoard(0);
+        write(market, "eve");
+        return market;
+    }
+
+    /** A setup with this many traders, called a, b, c and so on, without seats. */
+    static String withTraders(int count) {
+        StringBuilder setup = new StringBuilder("market 0 0 0 99 0 0;board 6 9 999;");
+        for (int trader = 0; trader < count; trader++) {
+            setup.append("trader ").append((char) ('a' + trader)).append(" 1 9 0;");
+        }
+        return setup.toString();
+    }
+
     static SeesawMarket of(String setup) {
         SeesawMarket market = new SeesawMarket();
         Expect.same("load of " + setup, load(market, setup), 0);
@@ -131,6 +155,28 @@ final class Markets {
             state.append(' ').append(market.positionOf(trader));
         }
         return state.toString();
+    }
+
+    /** All that undo and restore can bring back; it leaves nothing of the market. */
+    static String past(SeesawMarket market) {
+        StringBuilder past = new StringBuilder();
+        while (market.undoCount() > 0) {
+            market.undo();
+            past.append(state(market)).append('\n');
+        }
+        for (int slot = 0; slot < 2; slot++) {
+            past.append("slot ").append(slot).append(' ').append(restored(market, slot)).append('\n');
+        }
+        return past.toString();
+    }
+
+    private static String restored(SeesawMarket market, int slot) {
+        try {
+            market.restore(slot);
+            return state(market);
+        } catch (IllegalStateException exception) {
+            return "empty";
+        }
     }
 
     /** The state and all the rest that a call without effect leaves as it is. */

@@ -148,55 +148,44 @@ public final class ScriptTest {
         Expect.same("wage", after("repeat 20(repeat 20();); wage 9; repeat 1();", 1).wage(), 9);
     }
 
-    /** The error is due at the sign ~, which is not a part of the text. */
-    private static void error(int code, String marked) {
-        SeesawMarket market = Markets.first();
-        String before = Markets.state(market);
-        Expect.same("script " + marked, Markets.run(market, marked.replace("~", "")), SeesawMarket.NONE);
-        Expect.same("code of " + marked, market.errorCode(), code);
-        Expect.same("position in " + marked, market.errorPosition(), marked.indexOf('~'));
-        Expect.same("state after " + marked, Markets.state(market), before);
-        Expect.same("changes after " + marked, market.undoCount(), 0);
-    }
-
     private static void errorsOfWords() {
-        error(SeesawMarket.SYNTAX, "~market 1 2 3 4 5 6;");
-        error(SeesawMarket.SYNTAX, "~day 1;");
-        error(SeesawMarket.SYNTAX, "~dayss 1;");
-        error(SeesawMarket.SYNTAX, "~pays 1;");
-        error(SeesawMarket.SYNTAX, "~coin eve 1 1;");
-        error(SeesawMarket.SYNTAX, "buy ann 0 ~weft 1;");
-        error(SeesawMarket.SYNTAX, "buy ann 0 ~fight 1;");
-        error(SeesawMarket.SYNTAX, "~1;");
-        error(SeesawMarket.SYNTAX, "~;");
-        error(SeesawMarket.SYNTAX, "days 1; ~)");
-        error(SeesawMarket.SYNTAX, "days 1 ~wage 1;");
-        error(SeesawMarket.SYNTAX, "days ~;");
-        error(SeesawMarket.SYNTAX, "days~");
-        error(SeesawMarket.SYNTAX, "days 1 ~");
-        error(SeesawMarket.SYNTAX, "days 1\n ~");
-        error(SeesawMarket.SYNTAX, "buy ann 0 ~up 1;");
-        error(SeesawMarket.SYNTAX, "buy ann 0 ~1;");
-        error(SeesawMarket.SYNTAX, "join eve 1 1~");
-        error(SeesawMarket.SYNTAX, "join eve 1 1 ~0;");
-        error(SeesawMarket.SYNTAX, "sell ann bob ~;");
-        error(SeesawMarket.SYNTAX, "swap ann bob ~1;");
+        Texts.scriptError(SeesawMarket.SYNTAX, "~market 1 2 3 4 5 6;");
+        Texts.scriptError(SeesawMarket.SYNTAX, "~day 1;");
+        Texts.scriptError(SeesawMarket.SYNTAX, "~dayss 1;");
+        Texts.scriptError(SeesawMarket.SYNTAX, "~pays 1;");
+        Texts.scriptError(SeesawMarket.SYNTAX, "~coin eve 1 1;");
+        Texts.scriptError(SeesawMarket.SYNTAX, "buy ann 0 ~weft 1;");
+        Texts.scriptError(SeesawMarket.SYNTAX, "buy ann 0 ~fight 1;");
+        Texts.scriptError(SeesawMarket.SYNTAX, "~1;");
+        Texts.scriptError(SeesawMarket.SYNTAX, "~;");
+        Texts.scriptError(SeesawMarket.SYNTAX, "days 1; ~)");
+        Texts.scriptError(SeesawMarket.SYNTAX, "days 1 ~wage 1;");
+        Texts.scriptError(SeesawMarket.SYNTAX, "days ~;");
+        Texts.scriptError(SeesawMarket.SYNTAX, "days~");
+        Texts.scriptError(SeesawMarket.SYNTAX, "days 1 ~");
+        Texts.scriptError(SeesawMarket.SYNTAX, "days 1\n ~");
+        Texts.scriptError(SeesawMarket.SYNTAX, "buy ann 0 ~up 1;");
+        Texts.scriptError(SeesawMarket.SYNTAX, "buy ann 0 ~1;");
+        Texts.scriptError(SeesawMarket.SYNTAX, "join eve 1 1~");
+        Texts.scriptError(SeesawMarket.SYNTAX, "join eve 1 1 ~0;");
+        Texts.scriptError(SeesawMarket.SYNTAX, "sell ann bob ~;");
+        Texts.scriptError(SeesawMarket.SYNTAX, "swap ann bob ~1;");
     }
 
     private static void errorsOfNumbers() {
-        error(SeesawMarket.OUT_OF_RANGE, "join eve ~0 1;");
-        error(SeesawMarket.OUT_OF_RANGE, "join eve ~100 1;");
-        error(SeesawMarket.OUT_OF_RANGE, "join eve 99 ~10000;");
-        error(SeesawMarket.OUT_OF_RANGE, "buy ann ~5 left 1;");
-        error(SeesawMarket.OUT_OF_RANGE, "buy ann 4 left ~0;");
-        error(SeesawMarket.OUT_OF_RANGE, "buy ann 4 right ~7;");
-        error(SeesawMarket.OUT_OF_RANGE, "sell ann bob ~0;");
-        error(SeesawMarket.OUT_OF_RANGE, "sell ann bob ~51;");
-        error(SeesawMarket.OUT_OF_RANGE, "wage ~21;");
-        error(SeesawMarket.OUT_OF_RANGE, "days ~0;");
-        error(SeesawMarket.OUT_OF_RANGE, "days ~31;");
-        error(SeesawMarket.OUT_OF_RANGE, "repeat ~0();");
-        error(SeesawMarket.OUT_OF_RANGE, "repeat ~21();");
+        Texts.scriptError(SeesawMarket.OUT_OF_RANGE, "join eve ~0 1;");
+        Texts.scriptError(SeesawMarket.OUT_OF_RANGE, "join eve ~100 1;");
+        Texts.scriptError(SeesawMarket.OUT_OF_RANGE, "join eve 99 ~10000;");
+        Texts.scriptError(SeesawMarket.OUT_OF_RANGE, "buy ann ~5 left 1;");
+        Texts.scriptError(SeesawMarket.OUT_OF_RANGE, "buy ann 4 left ~0;");
+        Texts.scriptError(SeesawMarket.OUT_OF_RANGE, "buy ann 4 right ~7;");
+        Texts.scriptError(SeesawMarket.OUT_OF_RANGE, "sell ann bob ~0;");
+        Texts.scriptError(SeesawMarket.OUT_OF_RANGE, "sell ann bob ~51;");
+        Texts.scriptError(SeesawMarket.OUT_OF_RANGE, "wage ~21;");
+        Texts.scriptError(SeesawMarket.OUT_OF_RANGE, "days ~0;");
+        Texts.scriptError(SeesawMarket.OUT_OF_RANGE, "days ~31;");
+        Texts.scriptError(SeesawMarket.OUT_OF_RANGE, "repeat ~0();");
+        Texts.scriptError(SeesawMarket.OUT_OF_RANGE, "repeat ~21();");
         Expect.same("the ends of ranges", Markets.state(after("join eve 99 9999; wage 20; wage 0; days 1; days 30;", 5)),
                 Markets.state(after("join eve 99 9999; wage 20; wage 0; repeat 1(days 1; days 30;);", 5)));
         Expect.same("most units are allowed", Markets.run(Markets.first(), "sell ann bob 50;"), 0);
@@ -204,16 +193,16 @@ public final class ScriptTest {
     }
 
     private static void errorsOfNames() {
-        error(SeesawMarket.SYNTAX, "leave ~abcdefg;");
-        error(SeesawMarket.SYNTAX, "leave ~7;");
-        error(SeesawMarket.SYNTAX, "join ~abcdefg 1 1;");
-        error(SeesawMarket.SYNTAX, "join ~;");
-        error(SeesawMarket.SYNTAX, "buy ~abcdefg 0 left 1;");
-        error(SeesawMarket.SYNTAX, "swap ann ~abcdefg;");
-        error(SeesawMarket.SYNTAX, "swap ~abcdefg abcdefg;");
-        error(SeesawMarket.ALREADY_USED, "swap ann ~ann;");
-        error(SeesawMarket.ALREADY_USED, "sell eve ~eve 0;");
-        error(SeesawMarket.SYNTAX, "sell ann ~0;");
+        Texts.scriptError(SeesawMarket.SYNTAX, "leave ~abcdefg;");
+        Texts.scriptError(SeesawMarket.SYNTAX, "leave ~7;");
+        Texts.scriptError(SeesawMarket.SYNTAX, "join ~abcdefg 1 1;");
+        Texts.scriptError(SeesawMarket.SYNTAX, "join ~;");
+        Texts.scriptError(SeesawMarket.SYNTAX, "buy ~abcdefg 0 left 1;");
+        Texts.scriptError(SeesawMarket.SYNTAX, "swap ann ~abcdefg;");
+        Texts.scriptError(SeesawMarket.SYNTAX, "swap ~abcdefg abcdefg;");
+        Texts.scriptError(SeesawMarket.ALREADY_USED, "swap ann ~ann;");
+        Texts.scriptError(SeesawMarket.ALREADY_USED, "sell eve ~eve 0;");
+        Texts.scriptError(SeesawMarket.SYNTAX, "sell ann ~0;");
         Expect.same("six letters", after("join abcdef 1 1;", 1).traderCount(), 5);
         Expect.same("a name like another's beginning", after("join an 1 1; swap ann an;", 1).traderCount(), 5);
         // The names of an earlier script must not be left in a later one.
@@ -223,24 +212,24 @@ public final class ScriptTest {
     }
 
     private static void errorsOfBrackets() {
-        error(SeesawMarket.SYNTAX, "repeat 2 ~days 1;");
-        error(SeesawMarket.SYNTAX, "repeat 2 ~;");
-        error(SeesawMarket.SYNTAX, "repeat ~(days 1;);");
-        error(SeesawMarket.SYNTAX, "repeat 2 (days 1~);");
-        error(SeesawMarket.SYNTAX, "repeat 2 (days 1;~");
-        error(SeesawMarket.SYNTAX, "repeat 2 (days 1;) ~");
-        error(SeesawMarket.SYNTAX, "repeat 2 (days 1;) ~)");
-        error(SeesawMarket.SYNTAX, "repeat 2 (days 1;); ~)");
-        error(SeesawMarket.SYNTAX, "repeat 2 (~(");
-        error(SeesawMarket.SYNTAX, "repeat 2 (~;");
-        error(SeesawMarket.SYNTAX, "repeat 2 (repeat 2 (days 1;); ~");
-        error(SeesawMarket.SYNTAX, "repeat 2 (repeat 2 (days 1;)~) );");
-        error(SeesawMarket.SYNTAX, "~(days 1;);");
-        error(SeesawMarket.TOO_MANY, "repeat 1(repeat 1(repeat 1~(days 1;););");
-        error(SeesawMarket.TOO_MANY, "repeat 1(repeat 1(days 1; repeat 1 ~(");
-        error(SeesawMarket.OUT_OF_RANGE, "repeat 1(repeat 1(repeat ~0(");
-        error(SeesawMarket.SYNTAX, "repeat 1(repeat 1(repeat 1~");
-        error(SeesawMarket.SYNTAX, "repeat 1(repeat 1(repeat 1 ~days 1;");
+        Texts.scriptError(SeesawMarket.SYNTAX, "repeat 2 ~days 1;");
+        Texts.scriptError(SeesawMarket.SYNTAX, "repeat 2 ~;");
+        Texts.scriptError(SeesawMarket.SYNTAX, "repeat ~(days 1;);");
+        Texts.scriptError(SeesawMarket.SYNTAX, "repeat 2 (days 1~);");
+        Texts.scriptError(SeesawMarket.SYNTAX, "repeat 2 (days 1;~");
+        Texts.scriptError(SeesawMarket.SYNTAX, "repeat 2 (days 1;) ~");
+        Texts.scriptError(SeesawMarket.SYNTAX, "repeat 2 (days 1;) ~)");
+        Texts.scriptError(SeesawMarket.SYNTAX, "repeat 2 (days 1;); ~)");
+        Texts.scriptError(SeesawMarket.SYNTAX, "repeat 2 (~(");
+        Texts.scriptError(SeesawMarket.SYNTAX, "repeat 2 (~;");
+        Texts.scriptError(SeesawMarket.SYNTAX, "repeat 2 (repeat 2 (days 1;); ~");
+        Texts.scriptError(SeesawMarket.SYNTAX, "repeat 2 (repeat 2 (days 1;)~) );");
+        Texts.scriptError(SeesawMarket.SYNTAX, "~(days 1;);");
+        Texts.scriptError(SeesawMarket.TOO_MANY, "repeat 1(repeat 1(repeat 1~(days 1;););");
+        Texts.scriptError(SeesawMarket.TOO_MANY, "repeat 1(repeat 1(days 1; repeat 1 ~(");
+        Texts.scriptError(SeesawMarket.OUT_OF_RANGE, "repeat 1(repeat 1(repeat ~0(");
+        Texts.scriptError(SeesawMarket.SYNTAX, "repeat 1(repeat 1(repeat 1~");
+        Texts.scriptError(SeesawMarket.SYNTAX, "repeat 1(repeat 1(repeat 1 ~days 1;");
         SeesawMarket market = Markets.first();
         Markets.run(market, "repeat 2 (repeat 2 (");
         Expect.same("no bracket of an earlier script is open", Markets.run(market, "days 1;"), 1);
@@ -251,12 +240,12 @@ public final class ScriptTest {
     private static void tooManyCommands() {
         String thirty = "wage 1;".repeat(30);
         after(thirty, 30);
-        error(SeesawMarket.TOO_MANY, thirty + "~days 0;");
-        error(SeesawMarket.TOO_MANY, thirty + "~repeat");
-        error(SeesawMarket.SYNTAX, thirty + "~day");
-        error(SeesawMarket.SYNTAX, thirty + "~)");
+        Texts.scriptError(SeesawMarket.TOO_MANY, thirty + "~days 0;");
+        Texts.scriptError(SeesawMarket.TOO_MANY, thirty + "~repeat");
+        Texts.scriptError(SeesawMarket.SYNTAX, thirty + "~day");
+        Texts.scriptError(SeesawMarket.SYNTAX, thirty + "~)");
         String inBrackets = "repeat 1(" + "wage 1;".repeat(28) + "repeat 1(";
-        error(SeesawMarket.TOO_MANY, inBrackets + "~wage 1;););");
+        Texts.scriptError(SeesawMarket.TOO_MANY, inBrackets + "~wage 1;););");
         Expect.same("30 with repeats", after(inBrackets + "););", 28).wage(), 1);
     }
 }

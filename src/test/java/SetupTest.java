@@ -104,118 +104,107 @@ public final class SetupTest {
                 + " board 3 1 1 -1 -1 ^  -1 -1 -1 trader x 1 1 1 true -1 0 trader y 1 1 1 true 0 -3");
     }
 
-    /** The error is due at the sign ~, which is not a part of the text. */
-    private static void error(int code, String marked) {
-        String text = marked.replace("~", "");
-        SeesawMarket market = Markets.first();
-        String before = Markets.state(market);
-        Expect.same("load of " + marked, Markets.load(market, text), code);
-        Expect.same("code of " + marked, market.errorCode(), code);
-        Expect.same("position in " + marked, market.errorPosition(), marked.indexOf('~'));
-        Expect.same("state after " + marked, Markets.state(market), before);
-    }
-
     private static void errorsOfTheMarket() {
-        error(SeesawMarket.SYNTAX, "~");
-        error(SeesawMarket.SYNTAX, "  ~");
-        error(SeesawMarket.SYNTAX, "~board 1 1 1;");
-        error(SeesawMarket.SYNTAX, "~markets 1 2 3 4 5 6;");
-        error(SeesawMarket.SYNTAX, "~marke 1 2 3 4 5 6;");
-        error(SeesawMarket.SYNTAX, "~basket 1 2 3 4 5 6;");
-        error(SeesawMarket.SYNTAX, HEAD + "~hoard 1 1 1;");
-        error(SeesawMarket.SYNTAX, "~1 2 3 4 5 6;");
-        error(SeesawMarket.OUT_OF_RANGE, "market ~21 100 100");
-        error(SeesawMarket.OUT_OF_RANGE, "market 20 ~100 100");
-        error(SeesawMarket.OUT_OF_RANGE, "market 20 99 ~100 1");
-        error(SeesawMarket.OUT_OF_RANGE, "market 20 99 99 ~0 1");
-        error(SeesawMarket.OUT_OF_RANGE, "market 20 99 99 ~1000 1");
-        error(SeesawMarket.OUT_OF_RANGE, "market 20 99 99 999 ~1000 1");
-        error(SeesawMarket.OUT_OF_RANGE, "market 20 99 99 999 999 ~100000;");
-        error(SeesawMarket.SYNTAX, "market 20 99 99 999 999 99999~");
-        error(SeesawMarket.SYNTAX, "market 20 99 99 999 999 99999 ~board");
-        error(SeesawMarket.SYNTAX, "market 20 99 99 999 999 99999 ~1;");
-        error(SeesawMarket.SYNTAX, "market 20 99 ~;");
-        error(SeesawMarket.SYNTAX, "market 20 99 ~x");
-        error(SeesawMarket.SYNTAX, "market ~-1");
-        error(SeesawMarket.SYNTAX, HEAD + "~;");
-        error(SeesawMarket.SYNTAX, HEAD + "~market 1 2 3 4 5 6;");
-        error(SeesawMarket.SYNTAX, HEAD + " ~days 1;");
-        error(SeesawMarket.SYNTAX, HEAD + " ~(");
-        error(SeesawMarket.SYNTAX, HEAD + " ~7");
+        Texts.setupError(SeesawMarket.SYNTAX, "~");
+        Texts.setupError(SeesawMarket.SYNTAX, "  ~");
+        Texts.setupError(SeesawMarket.SYNTAX, "~board 1 1 1;");
+        Texts.setupError(SeesawMarket.SYNTAX, "~markets 1 2 3 4 5 6;");
+        Texts.setupError(SeesawMarket.SYNTAX, "~marke 1 2 3 4 5 6;");
+        Texts.setupError(SeesawMarket.SYNTAX, "~basket 1 2 3 4 5 6;");
+        Texts.setupError(SeesawMarket.SYNTAX, HEAD + "~hoard 1 1 1;");
+        Texts.setupError(SeesawMarket.SYNTAX, "~1 2 3 4 5 6;");
+        Texts.setupError(SeesawMarket.OUT_OF_RANGE, "market ~21 100 100");
+        Texts.setupError(SeesawMarket.OUT_OF_RANGE, "market 20 ~100 100");
+        Texts.setupError(SeesawMarket.OUT_OF_RANGE, "market 20 99 ~100 1");
+        Texts.setupError(SeesawMarket.OUT_OF_RANGE, "market 20 99 99 ~0 1");
+        Texts.setupError(SeesawMarket.OUT_OF_RANGE, "market 20 99 99 ~1000 1");
+        Texts.setupError(SeesawMarket.OUT_OF_RANGE, "market 20 99 99 999 ~1000 1");
+        Texts.setupError(SeesawMarket.OUT_OF_RANGE, "market 20 99 99 999 999 ~100000;");
+        Texts.setupError(SeesawMarket.SYNTAX, "market 20 99 99 999 999 99999~");
+        Texts.setupError(SeesawMarket.SYNTAX, "market 20 99 99 999 999 99999 ~board");
+        Texts.setupError(SeesawMarket.SYNTAX, "market 20 99 99 999 999 99999 ~1;");
+        Texts.setupError(SeesawMarket.SYNTAX, "market 20 99 ~;");
+        Texts.setupError(SeesawMarket.SYNTAX, "market 20 99 ~x");
+        Texts.setupError(SeesawMarket.SYNTAX, "market ~-1");
+        Texts.setupError(SeesawMarket.SYNTAX, HEAD + "~;");
+        Texts.setupError(SeesawMarket.SYNTAX, HEAD + "~market 1 2 3 4 5 6;");
+        Texts.setupError(SeesawMarket.SYNTAX, HEAD + " ~days 1;");
+        Texts.setupError(SeesawMarket.SYNTAX, HEAD + " ~(");
+        Texts.setupError(SeesawMarket.SYNTAX, HEAD + " ~7");
     }
 
     private static void errorsOfBoards() {
-        error(SeesawMarket.OUT_OF_RANGE, HEAD + "board ~0 1 1;");
-        error(SeesawMarket.OUT_OF_RANGE, HEAD + "board ~7 1 1;");
-        error(SeesawMarket.OUT_OF_RANGE, HEAD + "board 6 ~0 1;");
-        error(SeesawMarket.OUT_OF_RANGE, HEAD + "board 6 ~100 1;");
-        error(SeesawMarket.OUT_OF_RANGE, HEAD + "board 6 99 ~1000;");
-        error(SeesawMarket.SYNTAX, HEAD + "board 6 99 999 ~9;");
-        error(SeesawMarket.SYNTAX, HEAD + "board 6 99 ~;");
-        error(SeesawMarket.SYNTAX, HEAD + "board 6 99 999~");
-        error(SeesawMarket.SYNTAX, HEAD + "board ~x 99 999;");
-        error(SeesawMarket.SYNTAX, HEAD + "~boards 1 1 1;");
+        Texts.setupError(SeesawMarket.OUT_OF_RANGE, HEAD + "board ~0 1 1;");
+        Texts.setupError(SeesawMarket.OUT_OF_RANGE, HEAD + "board ~7 1 1;");
+        Texts.setupError(SeesawMarket.OUT_OF_RANGE, HEAD + "board 6 ~0 1;");
+        Texts.setupError(SeesawMarket.OUT_OF_RANGE, HEAD + "board 6 ~100 1;");
+        Texts.setupError(SeesawMarket.OUT_OF_RANGE, HEAD + "board 6 99 ~1000;");
+        Texts.setupError(SeesawMarket.SYNTAX, HEAD + "board 6 99 999 ~9;");
+        Texts.setupError(SeesawMarket.SYNTAX, HEAD + "board 6 99 ~;");
+        Texts.setupError(SeesawMarket.SYNTAX, HEAD + "board 6 99 999~");
+        Texts.setupError(SeesawMarket.SYNTAX, HEAD + "board ~x 99 999;");
+        Texts.setupError(SeesawMarket.SYNTAX, HEAD + "~boards 1 1 1;");
     }
 
     private static void errorsOfTraders() {
         String first = HEAD + "trader a 1 1 1;";
-        error(SeesawMarket.SYNTAX, HEAD + "trader ~abcdefg 1 1 1;");
-        error(SeesawMarket.SYNTAX, HEAD + "trader ~1 1 1 1;");
-        error(SeesawMarket.SYNTAX, HEAD + "trader ~;");
-        error(SeesawMarket.ALREADY_USED, first + "trader ~a 0 1 1;");
-        error(SeesawMarket.ALREADY_USED, first + "trader b 1 1 1; trader ~a");
-        error(SeesawMarket.OUT_OF_RANGE, first + "trader b ~0 1 1;");
-        error(SeesawMarket.OUT_OF_RANGE, first + "trader b ~100 1 1;");
-        error(SeesawMarket.OUT_OF_RANGE, first + "trader b 99 ~10000 1;");
-        error(SeesawMarket.OUT_OF_RANGE, first + "trader b 99 9999 ~41;");
-        error(SeesawMarket.OUT_OF_RANGE, "market 1 2 3 999 5 6; trader b 99 9999 ~1000;");
-        error(SeesawMarket.SYNTAX, first + "trader b 99 9999 40 ~4;");
-        error(SeesawMarket.SYNTAX, first + "trader b 99 9999 ~;");
-        error(SeesawMarket.SYNTAX, first + "trader b~");
-        error(SeesawMarket.SYNTAX, first + "trader B".replace("B", "~B") + " 1 1 1;");
+        Texts.setupError(SeesawMarket.SYNTAX, HEAD + "trader ~abcdefg 1 1 1;");
+        Texts.setupError(SeesawMarket.SYNTAX, HEAD + "trader ~1 1 1 1;");
+        Texts.setupError(SeesawMarket.SYNTAX, HEAD + "trader ~;");
+        Texts.setupError(SeesawMarket.ALREADY_USED, first + "trader ~a 0 1 1;");
+        Texts.setupError(SeesawMarket.ALREADY_USED, first + "trader b 1 1 1; trader ~a");
+        Texts.setupError(SeesawMarket.OUT_OF_RANGE, first + "trader b ~0 1 1;");
+        Texts.setupError(SeesawMarket.OUT_OF_RANGE, first + "trader b ~100 1 1;");
+        Texts.setupError(SeesawMarket.OUT_OF_RANGE, first + "trader b 99 ~10000 1;");
+        Texts.setupError(SeesawMarket.OUT_OF_RANGE, first + "trader b 99 9999 ~41;");
+        Texts.setupError(SeesawMarket.OUT_OF_RANGE, "market 1 2 3 999 5 6; trader b 99 9999 ~1000;");
+        Texts.setupError(SeesawMarket.SYNTAX, first + "trader b 99 9999 40 ~4;");
+        Texts.setupError(SeesawMarket.SYNTAX, first + "trader b 99 9999 ~;");
+        Texts.setupError(SeesawMarket.SYNTAX, first + "trader b~");
+        Texts.setupError(SeesawMarket.SYNTAX, first + "trader B".replace("B", "~B") + " 1 1 1;");
     }
 
     private static void errorsOfSeats() {
         String first = HEAD + "board 2 1 99; board 3 1 99; trader a 1 1 1; trader b 2 2 2;";
-        error(SeesawMarket.UNKNOWN_NAME, first + "seat ~c 9 up 9;");
-        error(SeesawMarket.SYNTAX, first + "seat ~aaaaaaa 0 left 1;");
-        error(SeesawMarket.SYNTAX, first + "seat ~0 left 1;");
-        error(SeesawMarket.ALREADY_USED, first + "seat a 0 left 1; seat ~a 0 left 9;");
-        error(SeesawMarket.OUT_OF_RANGE, first + "seat a ~2 up 1;");
-        error(SeesawMarket.OUT_OF_RANGE, HEAD + "trader a 1 1 1; seat a ~0 left 1;");
-        error(SeesawMarket.SYNTAX, first + "seat a ~left 1;");
-        error(SeesawMarket.SYNTAX, first + "seat a 1 ~up 0;");
-        error(SeesawMarket.SYNTAX, first + "seat a 1 ~3;");
-        error(SeesawMarket.SYNTAX, first + "seat a 1 ~leftright 1;");
-        error(SeesawMarket.OUT_OF_RANGE, first + "seat a 0 left ~0;");
-        error(SeesawMarket.OUT_OF_RANGE, first + "seat a 0 left ~3;");
-        error(SeesawMarket.OUT_OF_RANGE, first + "seat a 1 right ~4;");
-        error(SeesawMarket.ALREADY_USED, first + "seat a 1 right 3; seat b 1 right ~3;");
-        error(SeesawMarket.OUT_OF_RANGE, first + "seat a 1 right 3; seat b 0 right ~3;");
-        error(SeesawMarket.SYNTAX, first + "seat a 1 right 3 ~3;");
-        error(SeesawMarket.SYNTAX, first + "seat a 1 right ~;");
-        error(SeesawMarket.SYNTAX, first + "seat a 1 right 3~");
+        Texts.setupError(SeesawMarket.UNKNOWN_NAME, first + "seat ~c 9 up 9;");
+        Texts.setupError(SeesawMarket.SYNTAX, first + "seat ~aaaaaaa 0 left 1;");
+        Texts.setupError(SeesawMarket.SYNTAX, first + "seat ~0 left 1;");
+        Texts.setupError(SeesawMarket.ALREADY_USED, first + "seat a 0 left 1; seat ~a 0 left 9;");
+        Texts.setupError(SeesawMarket.OUT_OF_RANGE, first + "seat a ~2 up 1;");
+        Texts.setupError(SeesawMarket.OUT_OF_RANGE, HEAD + "trader a 1 1 1; seat a ~0 left 1;");
+        Texts.setupError(SeesawMarket.SYNTAX, first + "seat a ~left 1;");
+        Texts.setupError(SeesawMarket.SYNTAX, first + "seat a 1 ~up 0;");
+        Texts.setupError(SeesawMarket.SYNTAX, first + "seat a 1 ~3;");
+        Texts.setupError(SeesawMarket.SYNTAX, first + "seat a 1 ~leftright 1;");
+        Texts.setupError(SeesawMarket.OUT_OF_RANGE, first + "seat a 0 left ~0;");
+        Texts.setupError(SeesawMarket.OUT_OF_RANGE, first + "seat a 0 left ~3;");
+        Texts.setupError(SeesawMarket.OUT_OF_RANGE, first + "seat a 1 right ~4;");
+        Texts.setupError(SeesawMarket.ALREADY_USED, first + "seat a 1 right 3; seat b 1 right ~3;");
+        Texts.setupError(SeesawMarket.OUT_OF_RANGE, first + "seat a 1 right 3; seat b 0 right ~3;");
+        Texts.setupError(SeesawMarket.SYNTAX, first + "seat a 1 right 3 ~3;");
+        Texts.setupError(SeesawMarket.SYNTAX, first + "seat a 1 right ~;");
+        Texts.setupError(SeesawMarket.SYNTAX, first + "seat a 1 right 3~");
         Markets.of(first + "seat a 1 right 3; seat b 1 left 3;");
         Markets.of(first + "seat b 1 right 2; seat a 0 right 2;");
     }
 
     private static void errorsOfTheOrder() {
         String all = HEAD + "board 2 1 99; trader a 1 1 1; seat a 0 left 1;";
-        error(SeesawMarket.SYNTAX, HEAD + "trader a 1 1 1; ~board 2 1 99;");
-        error(SeesawMarket.SYNTAX, all + "~board 2 1 99;");
-        error(SeesawMarket.SYNTAX, all + "~trader b 1 1 1;");
-        error(SeesawMarket.UNKNOWN_NAME, HEAD + "seat ~a 0 left 1;");
+        Texts.setupError(SeesawMarket.SYNTAX, HEAD + "trader a 1 1 1; ~board 2 1 99;");
+        Texts.setupError(SeesawMarket.SYNTAX, all + "~board 2 1 99;");
+        Texts.setupError(SeesawMarket.SYNTAX, all + "~trader b 1 1 1;");
+        Texts.setupError(SeesawMarket.UNKNOWN_NAME, HEAD + "seat ~a 0 left 1;");
         // The first token with an error counts, whatever follows.
-        error(SeesawMarket.OUT_OF_RANGE, HEAD + "board ~7 100 1000 ? trader");
+        Texts.setupError(SeesawMarket.OUT_OF_RANGE, HEAD + "board ~7 100 1000 ? trader");
     }
 
     private static void tooManyBoards() {
         String five = HEAD + "board 1 1 1;".repeat(5);
         Expect.same("five boards", Markets.of(five).boardCount(), 5);
-        error(SeesawMarket.TOO_MANY, five + "~board 9 9 9;");
-        error(SeesawMarket.TOO_MANY, five + "~board");
-        error(SeesawMarket.SYNTAX, five + "~boards");
-        error(SeesawMarket.SYNTAX, five + "trader a 1 1 1; ~board 1 1 1;");
+        Texts.setupError(SeesawMarket.TOO_MANY, five + "~board 9 9 9;");
+        Texts.setupError(SeesawMarket.TOO_MANY, five + "~board");
+        Texts.setupError(SeesawMarket.SYNTAX, five + "~boards");
+        Texts.setupError(SeesawMarket.SYNTAX, five + "trader a 1 1 1; ~board 1 1 1;");
     }
 
     private static void tooManyTraders() {
@@ -227,9 +216,9 @@ public final class SetupTest {
         SeesawMarket market = Markets.of(traders.toString());
         Expect.same("24 traders", market.traderCount(), 24);
         Expect.same("the last of them", Markets.name(market, 23), "x");
-        error(SeesawMarket.TOO_MANY, traders + "~trader a 0");
-        error(SeesawMarket.TOO_MANY, traders + "~trader");
-        error(SeesawMarket.SYNTAX, traders + "seat x 0 left 1; ~trader y 1 1 1;");
+        Texts.setupError(SeesawMarket.TOO_MANY, traders + "~trader a 0");
+        Texts.setupError(SeesawMarket.TOO_MANY, traders + "~trader");
+        Texts.setupError(SeesawMarket.SYNTAX, traders + "seat x 0 left 1; ~trader y 1 1 1;");
         Expect.same("seats behind 24 traders", Markets.of(traders + "seat x 0 left 6;").positionOf(23), -6);
     }
 
