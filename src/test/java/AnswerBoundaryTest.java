@@ -372,6 +372,10 @@ public final class AnswerBoundaryTest {
         market.advance(30);
         Expect.sameDouble("all have retired", market.averagePurse(), 0.0);
         Expect.sameDouble("an empty purse", Markets.of(HEAD + "trader a 1 0 0;").averagePurse(), 0.0);
+        SeesawMarket full = Markets.of(Markets.withTraders(24));
+        Expect.sameDouble("24", full.averagePurse(), 9.0);
+        Markets.load(full, Markets.FIRST_SETUP);
+        Expect.sameDouble("four behind 24", full.averagePurse(), 107.0 / 4.0);
     }
 
     private static void occupancies() {

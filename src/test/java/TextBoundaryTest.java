@@ -194,6 +194,31 @@ public final class TextBoundaryTest {
         Expect.noState("slot 0", () -> usedAndLoaded(HEAD), loaded -> loaded.restore(0));
         Expect.noState("slot 1", () -> usedAndLoaded(HEAD), loaded -> loaded.restore(1));
         Expect.same("the first setup again", Markets.state(usedAndLoaded(Markets.FIRST_SETUP)), Markets.state(Markets.first()));
+        SeesawMarket first = Markets.first();
+        SeesawMarket behindFull = Markets.of(fullSetup());
+        Markets.load(behindFull, Markets.FIRST_SETUP);
+        Expect.same("the first setup behind a full one", Markets.state(behindFull), Markets.state(first));
+        Expect.sameDouble("average purse", behindFull.averagePurse(), first.averagePurse());
+        Expect.sameFloat("occupancy", behindFull.occupancy(), first.occupancy());
+        Expect.same("torque", behindFull.torque(0), first.torque(0));
+        Expect.same("place behind the last one", behindFull.richestAt(4), SeesawMarket.NONE);
+        Expect.same("bank after 100 days", behindFull.bankAfter(100), first.bankAfter(100));
+        behindFull.advance(1);
+        first.advance(1);
+        Expect.same("a day later", Markets.state(behindFull), Markets.state(first));
+    }
+
+    /** Five boards and 24 seated traders. */
+    private static String fullSetup() {
+        StringBuilder setup = new StringBuilder(HEAD + "board 6 1 9;".repeat(5));
+        for (int trader = 0; trader < 24; trader++) {
+            setup.append("trader ").append((char) ('a' + trader)).append(" 9 9 1;");
+        }
+        for (int trader = 0; trader < 24; trader++) {
+            setup.append("seat ").append((char) ('a' + trader)).append(trader % 5).append(trader % 2 == 0 ? "left" : "right");
+            setup.append(trader / 10 + 1).append(';');
+        }
+        return setup.toString();
     }
 
     private static void loadWithAnErrorLeavesAll() {
