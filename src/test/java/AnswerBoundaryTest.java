@@ -465,11 +465,8 @@ public final class AnswerBoundaryTest {
 
     /** The script goes on from day 9990 to day 9999. */
     private static SeesawMarket onLastDay(String setup, String script) {
-        SeesawMarket market = Markets.of(setup);
-        for (int round = 0; round < 8; round++) {
-            Markets.run(market, "repeat 20(repeat 2(days 30;););");
-        }
-        Markets.runAll(market, "days 30;".repeat(13) + script);
+        SeesawMarket market = Markets.onDay(setup, 9990);
+        Markets.runAll(market, script);
         Expect.same("day", market.day(), 9999);
         return market;
     }

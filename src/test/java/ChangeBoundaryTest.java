@@ -197,8 +197,8 @@ public final class ChangeBoundaryTest {
         Expect.noIndex("swap of nobody with nobody", Markets::rich, market -> market.swapSeats(4, 4));
         Expect.noIndex("swap without a seat with nobody", Markets::rich, market -> market.swapSeats(BOB, 4));
         Expect.noArgument("swap with itself without a seat", Markets::rich, market -> market.swapSeats(BOB, BOB));
-        Expect.noArgument("31 days from the last day", () -> onDay(9999), market -> market.advance(31));
-        Expect.noArgument("0 days from the last day", () -> onDay(9999), market -> market.advance(0));
+        Expect.noArgument("31 days from the last day", () -> Markets.onDay(HEAD, 9999), market -> market.advance(31));
+        Expect.noArgument("0 days from the last day", () -> Markets.onDay(HEAD, 9999), market -> market.advance(0));
     }
 
     private static void whatExistedOnceOrWillExist() {
@@ -484,25 +484,12 @@ public final class ChangeBoundaryTest {
         }
     }
 
-    private static SeesawMarket onDay(int day) {
-        SeesawMarket market = Markets.of(HEAD);
-        for (int round = 0; round < 8; round++) {
-            Markets.run(market, "repeat 20(repeat 2(days 30;););");
-        }
-        Markets.runAll(market, "days 30;".repeat(12));
-        if (day > 9960) {
-            Markets.runAll(market, "days 1;".repeat((day - 9960) % 20) + "days 20;".repeat((day - 9960) / 20));
-        }
-        Expect.same("day", market.day(), day);
-        return market;
-    }
-
     private static void day9999IsTheLast() {
-        Expect.noState("day 10000 by 30 days", () -> onDay(9970), market -> market.advance(30));
-        Expect.same("day 9999 by 29 days", onDay(9970).advance(29), 0);
-        Expect.noState("day 10001", () -> onDay(9971), market -> market.advance(30));
-        Expect.noState("day 10000 by 1 day", () -> onDay(9999), market -> market.advance(1));
-        Expect.same("day 9999 by 1 day", onDay(9998).advance(1), 0);
-        Expect.noState("day 10029", () -> onDay(9999), market -> market.advance(30));
+        Expect.noState("day 10000 by 30 days", () -> Markets.onDay(HEAD, 9970), market -> market.advance(30));
+        Expect.same("day 9999 by 29 days", Markets.onDay(HEAD, 9970).advance(29), 0);
+        Expect.noState("day 10001", () -> Markets.onDay(HEAD, 9971), market -> market.advance(30));
+        Expect.noState("day 10000 by 1 day", () -> Markets.onDay(HEAD, 9999), market -> market.advance(1));
+        Expect.same("day 9999 by 1 day", Markets.onDay(HEAD, 9998).advance(1), 0);
+        Expect.noState("day 10029", () -> Markets.onDay(HEAD, 9999), market -> market.advance(30));
     }
 }

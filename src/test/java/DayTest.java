@@ -174,30 +174,14 @@ public final class DayTest {
         Expect.same("day", market.day(), 4);
     }
 
-    private static SeesawMarket onDay(int day) {
-        SeesawMarket market = Markets.of("market 0 0 0 1 0 0;");
-        for (int left = day; left > 0; left -= Math.min(left, 1200)) {
-            int days = Math.min(left, 1200);
-            String script = days == 1200 ? "repeat 20(repeat 2(days 30;););" : inSingleDays(days);
-            Markets.run(market, script);
-        }
-        Expect.same("day", market.day(), day);
-        return market;
-    }
-
-    private static String inSingleDays(int days) {
-        String last = days % 30 == 0 ? "" : "days " + days % 30 + ";";
-        return "days 30;".repeat(days / 30) + last;
-    }
-
     private static void promise58AdvanceRefuses() {
         Expect.noArgument("0 days", Markets::first, market -> market.advance(0));
         Expect.noArgument("31 days", Markets::first, market -> market.advance(31));
         Expect.noArgument("-1 days", Markets::first, market -> market.advance(-1));
         Expect.noArgument("the most days", Markets::first, market -> market.advance(Integer.MAX_VALUE));
-        Expect.noState("day 10000", () -> onDay(9980), market -> market.advance(20));
-        Expect.same("day 9999", onDay(9980).advance(19), 0);
-        Expect.noState("beyond day 9999", () -> onDay(9999), market -> market.advance(1));
-        Expect.noArgument("31 days at the end", () -> onDay(9999), market -> market.advance(31));
+        Expect.noState("day 10000", () -> Markets.onDay("market 0 0 0 1 0 0;", 9980), market -> market.advance(20));
+        Expect.same("day 9999", Markets.onDay("market 0 0 0 1 0 0;", 9980).advance(19), 0);
+        Expect.noState("beyond day 9999", () -> Markets.onDay("market 0 0 0 1 0 0;", 9999), market -> market.advance(1));
+        Expect.noArgument("31 days at the end", () -> Markets.onDay("market 0 0 0 1 0 0;", 9999), market -> market.advance(31));
     }
 }

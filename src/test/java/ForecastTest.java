@@ -55,22 +55,13 @@ public final class ForecastTest {
     }
 
     private static void forecastsGoBeyondTheLastDay() {
-        SeesawMarket market = Markets.of("market 1 0 0 999 7 9000; board 1 9 0; trader a 1 0 0; trader b 9 9 0; seat a 0 left 1;"
-                + "seat b 0 right 1;");
-        for (int round = 0; round < 8; round++) {
-            Markets.run(market, "repeat 20(repeat 2(days 30;););");
-        }
-        Markets.run(market, "repeat 20(days 30;);");
-        Markets.run(market, "days 9; join late 5 9; buy late 0 left 1;");
-        Expect.same("day", market.day(), 9999);
+        SeesawMarket market = Markets.onDay("market 1 0 0 999 7 9000; board 1 9 0; trader a 1 0 0; trader b 9 9 0; seat a 0 left 1;"
+                + "seat b 0 right 1;", 9999);
+        Expect.same("join", Markets.join(market, "late", 5, 9), 2);
         Expect.same("a new trader would retire", market.daysUntilRetirement(2), 1000);
         Expect.same("bank", market.bankAfter(100), market.bank());
-        SeesawMarket retiring = Markets.of("market 0 0 0 999 0 0;");
-        for (int round = 0; round < 8; round++) {
-            Markets.run(retiring, "repeat 20(repeat 2(days 30;););");
-        }
-        Markets.run(retiring, "repeat 13(days 30;); join x 1 50;");
-        Expect.same("day", retiring.day(), 9990);
+        SeesawMarket retiring = Markets.onDay("market 0 0 0 999 0 0;", 9990);
+        Expect.same("join", Markets.join(retiring, "x", 1, 50), 0);
         Expect.same("purse after 100 days", retiring.purseAfter(0, 100), 50);
     }
 

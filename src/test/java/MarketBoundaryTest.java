@@ -89,18 +89,9 @@ public final class MarketBoundaryTest {
         Sentences.promise(33, "Returns the trader; NONE if there is no such place.", MarketBoundaryTest::placesThatAreNotThere);
     }
 
-    private static SeesawMarket onDay9990() {
-        SeesawMarket market = Markets.of(HEAD);
-        for (int round = 0; round < 8; round++) {
-            Markets.run(market, "repeat 20(repeat 2(days 30;););");
-        }
-        Markets.run(market, "repeat 13(days 30;);");
-        return market;
-    }
-
     private static void days() {
         Expect.same("a new object", Markets.first().day(), 0);
-        SeesawMarket market = onDay9990();
+        SeesawMarket market = Markets.onDay(HEAD, 9990);
         Expect.same("after 333 times 30 days", market.day(), 9990);
         market.advance(9);
         Expect.same("the last day", market.day(), 9999);

@@ -40,9 +40,31 @@ final class Markets {
         return setup.toString();
     }
 
+    /** A setup with 24 traders, who take all seats of the first two of five boards. */
+    static String full() {
+        StringBuilder setup = new StringBuilder("market 0 0 0 99 0 0;" + "board 6 1 9;".repeat(5));
+        for (int trader = 0; trader < 24; trader++) {
+            setup.append("trader ").append((char) ('a' + trader)).append(" 1 1 1;");
+        }
+        for (int trader = 0; trader < 24; trader++) {
+            setup.append("seat ").append((char) ('a' + trader)).append(trader / 12).append(trader % 2 == 0 ? "left" : "right");
+            setup.append(trader % 12 / 2 + 1).append(';');
+        }
+        return setup.toString();
+    }
+
     static SeesawMarket of(String setup) {
         SeesawMarket market = new SeesawMarket();
         Expect.same("load of " + setup, load(market, setup), 0);
+        return market;
+    }
+
+    static SeesawMarket onDay(String setup, int day) {
+        SeesawMarket market = of(setup);
+        for (int left = day; left > 0; left -= 30) {
+            market.advance(Math.min(left, 30));
+        }
+        Expect.same("day", market.day(), day);
         return market;
     }
 

@@ -195,7 +195,7 @@ public final class TextBoundaryTest {
         Expect.noState("slot 1", () -> usedAndLoaded(HEAD), loaded -> loaded.restore(1));
         Expect.same("the first setup again", Markets.state(usedAndLoaded(Markets.FIRST_SETUP)), Markets.state(Markets.first()));
         SeesawMarket first = Markets.first();
-        SeesawMarket behindFull = Markets.of(fullSetup());
+        SeesawMarket behindFull = Markets.of(Markets.full());
         Markets.load(behindFull, Markets.FIRST_SETUP);
         Expect.same("the first setup behind a full one", Markets.state(behindFull), Markets.state(first));
         Expect.sameDouble("average purse", behindFull.averagePurse(), first.averagePurse());
@@ -206,19 +206,6 @@ public final class TextBoundaryTest {
         behindFull.advance(1);
         first.advance(1);
         Expect.same("a day later", Markets.state(behindFull), Markets.state(first));
-    }
-
-    /** Five boards and 24 seated traders. */
-    private static String fullSetup() {
-        StringBuilder setup = new StringBuilder(HEAD + "board 6 1 9;".repeat(5));
-        for (int trader = 0; trader < 24; trader++) {
-            setup.append("trader ").append((char) ('a' + trader)).append(" 9 9 1;");
-        }
-        for (int trader = 0; trader < 24; trader++) {
-            setup.append("seat ").append((char) ('a' + trader)).append(trader % 5).append(trader % 2 == 0 ? "left" : "right");
-            setup.append(trader / 10 + 1).append(';');
-        }
-        return setup.toString();
     }
 
     private static void loadWithAnErrorLeavesAll() {
@@ -277,17 +264,7 @@ public final class TextBoundaryTest {
         Expect.same("day", market.day(), 40);
         Expect.same("wage", market.wage(), 3);
         Expect.same("40 of 800", Markets.run(Markets.first(), "repeat 20(repeat 20(days 1; wage 1;););"), 40);
-        Expect.same("the end of the days", Markets.run(lastDay(), "wage 1; days 1; wage 2;"), 1);
-    }
-
-    private static SeesawMarket lastDay() {
-        SeesawMarket market = Markets.of(HEAD);
-        for (int round = 0; round < 8; round++) {
-            Markets.run(market, "repeat 20(repeat 2(days 30;););");
-        }
-        Markets.run(market, "repeat 13(days 30;); days 9;");
-        Expect.same("day", market.day(), 9999);
-        return market;
+        Expect.same("the end of the days", Markets.run(Markets.onDay(HEAD, 9999), "wage 1; days 1; wage 2;"), 1);
     }
 
     private static void commandsStayInEffect() {

@@ -125,28 +125,15 @@ public final class TokenBoundaryTest {
         Expect.same("position of the mark itself", market.errorPosition(), 6);
     }
 
-    /** 24 traders on two boards, in less than 800 bytes. */
-    private static String fullSetup() {
-        StringBuilder setup = new StringBuilder(HEAD + "board 6 1 9;".repeat(5));
-        for (int trader = 0; trader < 24; trader++) {
-            setup.append("trader ").append((char) ('a' + trader)).append(" 1 1 1;");
-        }
-        for (int trader = 0; trader < 24; trader++) {
-            setup.append("seat ").append((char) ('a' + trader)).append(trader / 12).append(trader % 2 == 0 ? "left" : "right");
-            setup.append(trader % 12 / 2 + 1).append(';');
-        }
-        return setup.toString();
-    }
-
     private static void anyNumberOfRepetitions() {
         Texts.setupIsRight(HEAD);
         Texts.setupIsRight(HEAD + "board 1 1 1;");
         Texts.setupIsRight(HEAD + "trader a 1 1 1;");
         Texts.setupIsRight(HEAD + "board 1 1 1; trader a 1 1 1; seat a 0 left 1;");
-        SeesawMarket full = Markets.of(fullSetup());
+        SeesawMarket full = Markets.of(Markets.full());
         Expect.sameFloat("24 of 60 seats", full.occupancy(), 24.0f / 60.0f);
         Expect.same("a full board", Markets.board(full, 1), "w u s q o m ^ n p r t v x");
-        Texts.setupError(SeesawMarket.ALREADY_USED, fullSetup() + "seat ~a0left1;");
+        Texts.setupError(SeesawMarket.ALREADY_USED, Markets.full() + "seat ~a0left1;");
         Texts.scriptIsRight("");
         Texts.scriptIsRight("repeat 20();");
         Texts.scriptIsRight("repeat 20(repeat 20(););");
